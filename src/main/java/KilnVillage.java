@@ -643,6 +643,7 @@ public final class KilnVillage {
         int hours = 0;
         int logs = 0;
         final int[] heats = new int[MOST_CHAMBERS];
+        // Asked for within an hour alone, so that images go without it.
         final int[] heatsBefore = new int[MOST_CHAMBERS];
         final int[] values = new int[MOST_PLACES];
         final int[] holders = new int[MOST_PLACES];
@@ -656,7 +657,6 @@ public final class KilnVillage {
             chambers = itsChambers;
             for (int i = 0; i < MOST_CHAMBERS; i++) {
                 heats[i] = AIR_HEAT;
-                heatsBefore[i] = AIR_HEAT;
             }
             for (int place = 0; place < MOST_PLACES; place++) {
                 values[place] = 10 - place / SPOTS + place % SPOTS;
@@ -674,7 +674,6 @@ public final class KilnVillage {
             hours = other.hours;
             logs = other.logs;
             System.arraycopy(other.heats, 0, heats, 0, MOST_CHAMBERS);
-            System.arraycopy(other.heatsBefore, 0, heatsBefore, 0, MOST_CHAMBERS);
             System.arraycopy(other.values, 0, values, 0, MOST_PLACES);
             System.arraycopy(other.holders, 0, holders, 0, MOST_PLACES);
         }

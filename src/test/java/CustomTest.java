@@ -13,6 +13,7 @@ public final class CustomTest {
         testsHold();
         negatedTestsHold();
         firstLineTells();
+        nothingStaysOfEarlierTexts();
         Checks.finish();
     }
 
@@ -95,6 +96,10 @@ public final class CustomTest {
         Checks.refuses(x, "bears;", 1, 0);
         Checks.refuses(x, "bea;", 1, 0);
         Checks.refuses(x, "Bear;", 1, 0);
+        Checks.refuses(x, "gear;", 1, 0);
+        Checks.refuses(x, "cart 1;", 1, 0);
+        Checks.refuses(x, "of wet=1:bear;", 1, 0);
+        Checks.refuses(x, "if met=1:bear;", 1, 3);
         Checks.refuses(x, "bear5;", 1, 4);
         Checks.refuses(x, "bear\t;", 1, 4);
         Checks.refuses(x, "bear\r\n;", 1, 4);
@@ -110,6 +115,12 @@ public final class CustomTest {
         Checks.refuses(x, "if worth=1:bear;", 1, 3);
         Checks.refuses(x, "if wet 1:bear;", 1, 7);
         Checks.refuses(x, "if wet==1:bear;", 1, 7);
+        Checks.refuses(x, "if ==1:bear;", 1, 3);
+        Checks.refuses(x, "if wet wet 1:bear;", 1, 7);
+        Checks.refuses(x, "if wet:1:bear;", 1, 6);
+        Checks.refuses(x, "if wet=1=bear;", 1, 8);
+        Checks.refuses(x, "if and wet=1:bear;", 1, 3);
+        Checks.refuses(x, "if wet=1 not wet=2:bear;", 1, 9);
         Checks.refuses(x, "if wet<=1:bear;", 1, 7);
         Checks.refuses(x, "if wet=wet:bear;", 1, 7);
         Checks.refuses(x, "if wet=1234:bear;", 1, 7);
@@ -123,6 +134,7 @@ public final class CustomTest {
         Checks.refuses(x, "if wet=1:if wet=2:bear;", 1, 9);
         Checks.refuses(x, "if wet=1:and;", 1, 9);
         Checks.refuses(x, "ifwet=1:bear;", 1, 0);
+        x = new KilnVillage();
         Checks.refuses(x, "and", 1, 0);
         Checks.refuses(x, "not", 1, 0);
         Checks.refuses(x, "wet=1:bear;", 1, 0);
@@ -150,6 +162,8 @@ public final class CustomTest {
         Checks.refuses(x, "if wet=1 and wet=1 and wet=1 and wet=1 and wet=1:bear;", 3, 43);
         Checks.refuses(x, "if wet=1 and wet=1 and wet=1 and wet=1 and not wet=1:bear;", 3, 43);
         Checks.refuses(x, "if wet=1" + " and wet=1".repeat(20) + ":bear;", 3, 43);
+        Checks.refuses(x, "bear;".repeat(11) + "if wet=1" + " and wet=1".repeat(4) + ":bear;", 3, 98);
+        Checks.refuses(x, "bear;".repeat(12) + "if wet=1" + " and wet=1".repeat(4) + ":bear;", 3, 60);
         // The tests are counted in each line anew.
         Checks.takes(x, "if wet=1 and wet=1 and wet=1:bear;if wet=1 and wet=1:bear;", 2);
     }
@@ -239,5 +253,22 @@ public final class CustomTest {
         Checks.due("about(0, 8)", x.about(0, 8), 7);
         Checks.takes(x, "if shape=9:bear;".repeat(11) + "part 12;", 12);
         Checks.due("about(0, 8) by the 12th line", x.about(0, 8), 12);
+    }
+
+    private static void nothingStaysOfEarlierTexts() {
+        KilnVillage x = new KilnVillage();
+        x.house();
+        x.pot(0, 0, 0, 0);
+        Checks.takes(x, "if wet=0 and wet=1:part 30;part 40;part 50;", 3);
+        Checks.due("about(0, 8)", x.about(0, 8), 40);
+        Checks.takes(x, "part 60;", 1);
+        Checks.due("no tests of the earlier one", x.about(0, 8), 60);
+        Checks.takes(x, "bear;part 70;", 2);
+        Checks.due("no part of the earlier one", x.about(0, 8), 0);
+        Checks.takes(x, "if wet=1:part 80;", 1);
+        Checks.due("no line of the earlier one", x.about(0, 8), 0);
+        Checks.refuses(x, "part 90;part 90", 1, 15);
+        Checks.takes(x, "if wet=1:part 90;", 1);
+        Checks.due("no line of one with a fault", x.about(0, 8), 0);
     }
 }

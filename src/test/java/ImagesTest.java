@@ -5,6 +5,9 @@ public final class ImagesTest {
         imagesHaveBounds();
         imagesAreApart();
         allComesAgain();
+        tapeAndCustomComeAgain();
+        shapesAndGlazesComeAgain();
+        potsAndHousesComeAgain();
         Checks.finish();
     }
 
@@ -140,6 +143,85 @@ public final class ImagesTest {
         change(twice);
         Checks.due("again(1)", twice.again(1), true);
         compare(twice, village());
+    }
+
+    private static void tapeAndCustomComeAgain() {
+        KilnVillage x = new KilnVillage();
+        x.house();
+        x.pot(0, 0, 0, 9);
+        Checks.takes(x, "if shape=1:bear;".repeat(11) + "if wet>8 and not wet<9 and not wet=8 and spot=0:part 12;", 12);
+        Checks.feedText(x, "bear;bear;bear;");
+        x.image(0);
+        Checks.due("end(0)", x.end(0), 0);
+        Checks.takes(x, "if ripe=1 and ripe=1 and ripe=1 and ripe=1:part 1;".repeat(5), 5);
+        Checks.takes(x, "if ripe=999:part 1;".repeat(12), 12);
+        Checks.feedText(x, "part 1;xxxxxxxx");
+        x.again(0);
+        Checks.due("about(0, 8)", x.about(0, 8), 12);
+        Checks.due("end(16)", x.end(16), -1);
+        Checks.due("custom()", x.custom(), 3);
+    }
+
+    private static void shapesAndGlazesComeAgain() {
+        KilnVillage x = new KilnVillage();
+        x.house();
+        x.pot(0, 4, 3, 0);
+        x.shape(4, 30, 60);
+        x.glaze(3, 10);
+        x.deal();
+        x.image(2);
+        x.shape(4, 50, 59);
+        x.again(2);
+        x.fire(0, 1);
+        Checks.due("TOUGH 60 again", x.about(0, 6), 0);
+        x.again(2);
+        x.shape(4, 50, 120);
+        x.again(2);
+        x.fire(0, 2);
+        Checks.due("TOUGH 60 again, not 120", x.about(0, 6), 1);
+        x.again(2);
+        x.shape(4, 30, 999);
+        for (int i = 0; i < 4; i++) {
+            x.fire(0, 9);
+        }
+        x.rest(60);
+        int ripe = x.about(0, 7);
+        Checks.due("RIPE " + ripe + ", from 20 on, up to 80", ripe >= 20 && ripe <= 80, true);
+        x.image(2);
+        x.glaze(3, 0);
+        x.shape(4, 80, 1);
+        x.again(2);
+        Checks.due("open()", x.open(), 1);
+        Checks.due("SILVER", x.tell(0, 0), 30);
+    }
+
+    private static void potsAndHousesComeAgain() {
+        KilnVillage x = new KilnVillage();
+        x.house();
+        x.house();
+        x.pot(0, 0, 0, 0);
+        x.deal();
+        x.image(0);
+        Checks.due("spread()", x.spread(), 0);
+        x.pot(1, 0, 0, 0);
+        Checks.due("spread()", x.spread(), 13);
+        x.image(1);
+        x.again(0);
+        Checks.due("spread() as no pot was of house 1", x.spread(), 0);
+        x.again(1);
+        Checks.due("spread() as one was", x.spread(), 13);
+        x.shape(0, 10, 999);
+        for (int i = 0; i < 4; i++) {
+            x.fire(0, 9);
+        }
+        int ripe = x.about(0, 7);
+        Checks.due("RIPE", ripe > 0, true);
+        x.image(0);
+        x.fire(0, 9);
+        x.again(0);
+        Checks.due("RIPE again", x.about(0, 7), ripe);
+        x.again(1);
+        Checks.due("not RIPE again", x.about(0, 7), 0);
     }
 
     private static void compare(KilnVillage x, KilnVillage same) {

@@ -16,6 +16,7 @@ public final class VillageTest {
         potsDry();
         potsAreTold();
         placesAreTold();
+        fullVillage();
         Checks.finish();
     }
 
@@ -215,6 +216,14 @@ public final class VillageTest {
         Checks.due("dry(9)", x.dry(9), true);
         Checks.due("about(8, 3)", x.about(8, 3), 0);
         Checks.due("one that stands", x.about(0, 3), 9);
+        x.open();
+        x.pot(0, 0, 0, 6);
+        Checks.due("about(2, 3)", x.about(2, 3), 6);
+        KilnVillage y = new KilnVillage();
+        y.house();
+        y.pot(0, 0, 0, 9);
+        Checks.due("dry(4)", y.dry(4), true);
+        Checks.due("the first one", y.about(0, 3), 5);
     }
 
     private static void potsAreTold() {
@@ -253,5 +262,45 @@ public final class VillageTest {
         }
         x.open();
         Checks.due("at(0, 3) when opened", x.at(0, 3), -1);
+    }
+
+    /** All that there can be at most of, at once. */
+    private static void fullVillage() {
+        KilnVillage x = new KilnVillage();
+        x.kiln(6);
+        for (int house = 0; house < 8; house++) {
+            x.house();
+            for (int i = 0; i < 3; i++) {
+                Checks.due("pot", x.pot(house, 0, 0, 9), 3 * house + i);
+            }
+            for (int i = 0; i < 8; i++) {
+                Checks.due("order", x.order(house, 1, 8 - i, 9), i);
+            }
+        }
+        x.shape(0, 800, 90);
+        Checks.takes(x, "if wet=1:bear;".repeat(11) + "if wet=8 and ripe=0 and shape=0 and glaze=0:part 50;", 12);
+        Checks.due("dry(1)", x.dry(1), true);
+        Checks.due("about(23, 3)", x.about(23, 3), 8);
+        Checks.due("about(23, 8)", x.about(23, 8), 50);
+        Checks.due("image(2)", x.image(2), true);
+        Checks.due("deal()", x.deal(), 24);
+        Checks.due("count(2)", x.count(2), 24);
+        Checks.due("spread()", x.spread() >= 0, true);
+        Checks.due("fire(5, 9)", x.fire(5, 9), 560);
+        Checks.due("cracked in the last chamber", x.about(x.at(5, 0), 6), 1);
+        Checks.due("whole in the first", x.about(x.at(0, 0), 6), 0);
+        Checks.due("rest(60)", x.rest(60) < 200, true);
+        Checks.due("open()", x.open(), 0);
+        int silver = 0;
+        for (int house = 0; house < 8; house++) {
+            silver += x.tell(house, 0);
+            Checks.due("BEST's worth", x.tell(house, 5), 72);
+            Checks.due("BEST's bits", x.tell(house, 6), 255);
+            Checks.due("POTS", x.tell(house, 2), 0);
+        }
+        Checks.due("what is shared stays in the village", silver % 400, 0);
+        Checks.due("again(2)", x.again(2), true);
+        Checks.due("count(1)", x.count(1), 24);
+        Checks.due("at(5, 3)", x.at(5, 3), -1);
     }
 }
